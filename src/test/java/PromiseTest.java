@@ -200,57 +200,98 @@ public final class PromiseTest {
         }
     }
 
+    /** All kinds run in turn on one object, twice, because what one leaves behind could spoil another. */
     private static void promise5Arithmetic(int level) {
         for (int y = 0; y < 16; y++) {
             for (int z = 0; z < 16; z++) {
-                dueOf(level, 0, y, z, -1);
-                dueOf(level, 1, y, z, z);
-                dueOf(level, 2, y, z, (y + z) % 16);
-                dueOf(level, 3, y, z, (y - z + 16) % 16);
-                dueOf(level, 4, y, z, y * z % 16);
-                dueOf(level, 5, y, z, y < z ? 1 : 0);
-                dueOf(level, 6, y, z, y == z ? 1 : 0);
-                dueOf(level, 13, y, z, z == 0 ? 0 : y / z);
+                TapeCompiler t = fresh(level);
+                for (int round = 0; round < 2; round++) {
+                    dueOf(t, 0, y, z, z);
+                    dueOf(t, 1, y, z, z);
+                    dueOf(t, 2, y, z, (y + z) % 16);
+                    dueOf(t, 3, y, z, (y - z + 16) % 16);
+                    dueOf(t, 4, y, z, y * z % 16);
+                    dueOf(t, 5, y, z, y < z ? 1 : 0);
+                    dueOf(t, 6, y, z, y == z ? 1 : 0);
+                    dueOf(t, 13, y, z, z == 0 ? 0 : y / z);
+                }
+                for (int i = 0; i < 16; i++) {
+                    due("5: element " + i + " stays", t.element(i), 0);
+                }
             }
         }
     }
 
     /** Kinds 1 to 3 work on x itself, which holds y then; the others get y and z from variables 3 and 5. */
-    private static void dueOf(int level, int kind, int y, int z, int want) {
-        TapeCompiler t = fresh(level);
+    private static void dueOf(TapeCompiler t, int kind, int y, int z, int want) {
         t.setVariable(1, y);
         t.setVariable(3, y);
         t.setVariable(5, z);
         int s = kind == 0 ? t.state(0, 1, z, -7) : kind < 4 ? t.state(kind, 1, 5, -7) : t.state(kind, 1, 3, 5);
         String what = "5: kind " + kind + " of " + y + " and " + z;
         due(what + ", run", t.run(s), 0);
-        due(what, t.variable(1), kind == 0 ? z : want);
+        due(what, t.variable(1), want);
         due(what + ", variable 3", t.variable(3), y);
         due(what + ", variable 5", t.variable(5), z);
         due(what + ", others", t.variable(0) + t.variable(2) + t.variable(4), 0);
-        for (int i = 0; i < 16; i++) {
-            due(what + ", element", t.element(i), 0);
-        }
     }
 
     private static void promise5Array(int level) {
         for (int i = 0; i < 16; i++) {
             TapeCompiler t = fresh(level);
+            int[] array = new int[16];
             for (int j = 0; j < 16; j++) {
-                t.setElement(j, (j * 7 + 3) % 16);
+                array[j] = (j * 7 + 3) % 16;
+                t.setElement(j, array[j]);
             }
-            t.setVariable(4, i);
-            t.setVariable(2, 15);
-            due("5: kind 7, run", t.run(t.state(7, 2, 4, 0)), 0);
-            due("5: kind 7, element " + i, t.variable(2), (i * 7 + 3) % 16);
-            due("5: kind 7, index stays", t.variable(4), i);
-            t.setVariable(0, 15 - i);
-            due("5: kind 8, run", t.run(t.state(8, 4, 0, 0)), 0);
-            for (int j = 0; j < 16; j++) {
-                due("5: kind 8, element " + j, t.element(j), j == i ? 15 - i : (j * 7 + 3) % 16);
+            for (int round = 0; round < 2; round++) {
+                fetchAndStore(t, (i + round * 5) % 16, array);
             }
-            due("5: kind 8, index stays", t.variable(4), i);
-            due("5: kind 8, value stays", t.variable(0), 15 - i);
+            arrayInOneRun(level, i);
+        }
+    }
+
+    /** The array is used again and again within one run: 225 times element i becomes itself + 1, then is printed. */
+    private static void arrayInOneRun(int level, int i) {
+        TapeCompiler t = fresh(level);
+        t.setVariable(0, i);
+        t.setVariable(2, 1);
+        t.setVariable(3, 15);
+        t.state(7, 1, 0, 0);
+        t.state(2, 1, 2, 0);
+        t.state(8, 0, 1, 0);
+        t.state(9, 1, 0, 0);
+        t.state(10, 0, 1, 0);
+        t.state(10, 2, 3, 0);
+        t.state(10, 4, 5, 0);
+        t.state(12, 3, 6, 0);
+        t.state(12, 3, 7, 0);
+        due("5: the array in one run", t.run(8), 225);
+        due("5: the array in one run, index " + i, t.element(i), 225 % 16);
+        for (int k = 0; k < 40; k++) {
+            due("5: the array in one run, number " + k, t.output(k), (k + 1) % 16);
+        }
+        due("5: the array in one run, index stays", t.variable(0), i);
+    }
+
+    private static void fetchAndStore(TapeCompiler t, int i, int[] array) {
+        t.setVariable(4, i);
+        t.setVariable(2, 15);
+        due("5: kind 7, run", t.run(t.state(7, 2, 4, 0)), 0);
+        due("5: kind 7, element " + i, t.variable(2), array[i]);
+        due("5: kind 7, index stays", t.variable(4), i);
+        dueArray("5: kind 7", t, array);
+        t.setVariable(0, 15 - i);
+        due("5: kind 8, run", t.run(t.state(8, 4, 0, 0)), 0);
+        array[i] = 15 - i;
+        dueArray("5: kind 8", t, array);
+        due("5: kind 8, index stays", t.variable(4), i);
+        due("5: kind 8, value stays", t.variable(0), 15 - i);
+    }
+
+    private static void dueArray(String what, TapeCompiler t, int[] array) {
+        for (int j = 0; j < 16; j++) {
+            due(what + ", element " + j, t.element(j), array[j]);
         }
     }
 
@@ -320,6 +361,31 @@ public final class PromiseTest {
         t.setVariable(0, 0);
         t.run(7);
         due("5: a repeat in a repeat", t.variable(0), 49 % 16);
+        nestedChoices(level);
+    }
+
+    /** The array is full here, so that it shows if a choice and the array get in each other's way. */
+    private static void nestedChoices(int level) {
+        for (int way = 0; way < 4; way++) {
+            TapeCompiler t = fresh(level);
+            int[] array = new int[16];
+            for (int i = 0; i < 16; i++) {
+                array[i] = 15 - i;
+                t.setElement(i, array[i]);
+            }
+            for (int n = 0; n < 4; n++) {
+                t.setVariable(2 + n, 10 + n);
+                t.state(9, 2 + n, 0, 0);
+            }
+            t.state(11, 1, 0, 1);
+            t.state(11, 1, 2, 3);
+            t.state(11, 0, 4, 5);
+            t.setVariable(0, way < 2 ? 15 : 0);
+            t.setVariable(1, way % 2 == 0 ? 1 : 0);
+            due("5: a choice in a choice", t.run(6), 1);
+            due("5: a choice in a choice, way " + way, t.output(0), 10 + way);
+            dueArray("5: a choice in a choice", t, array);
+        }
     }
 
     private static void promise5SharedOperands(int level) {
