@@ -48,25 +48,38 @@ public final class TermsBoundaryTest extends Sentences {
         holds("Terms: the WEIGHT is at most 12 (kind 12)", TermsBoundaryTest::weightOfKind12);
         holds("Terms: the NESTING is at most 2 (kind 11)", TermsBoundaryTest::nestingOfKind11);
         holds("Terms: the NESTING is at most 2 (kind 12)", TermsBoundaryTest::nestingOfKind12);
+        holds("Terms: the NESTING is at most 2 (carried out)", TermsBoundaryTest::greatestNestingIsCarriedOut);
         holds("Terms: the NESTING, that for kind 10", TermsBoundaryTest::nestingOfKind10);
         holds("Terms: the NESTING, 0 for others", TermsBoundaryTest::nestingOfOthers);
     }
 
-    /** What becomes of variable x when variables 0 to 2 hold a, b and c; the others must stay. */
+    /**
+     * What becomes of variable x when variables 0 to 2 hold a, b and c; the others must stay. It is done three
+     * times on one object, because what a run leaves behind would show only in a later one.
+     */
     private static int result(int kind, int x, int y, int z, int a, int b, int c) {
         TapeCompiler t = filled();
         int[] before = {a, b, c, 13, 14, 15};
-        for (int v = 0; v < 3; v++) {
+        int s = t.state(kind, x, y, z);
+        int first = resultOf(t, s, x, before);
+        for (int again = 2; again <= 3; again++) {
+            due("kind " + kind + ", time " + again, resultOf(t, s, x, before), first);
+        }
+        return first;
+    }
+
+    private static int resultOf(TapeCompiler t, int s, int x, int[] before) {
+        for (int v = 0; v < 6; v++) {
             t.setVariable(v, before[v]);
         }
-        due("run", t.run(t.state(kind, x, y, z)), 0);
+        due("run", t.run(s), 0);
         for (int v = 0; v < 6; v++) {
             if (v != x) {
-                due("kind " + kind + ": variable " + v + " beside x", t.variable(v), before[v]);
+                due("variable " + v + " beside x", t.variable(v), before[v]);
             }
         }
         for (int i = 0; i < 16; i++) {
-            due("kind " + kind + ": element " + i, t.element(i), (i * 7 + 5) % 16);
+            due("element " + i, t.element(i), (i * 7 + 5) % 16);
         }
         return t.variable(x);
     }
@@ -494,6 +507,54 @@ public final class TermsBoundaryTest extends Sentences {
         t.state(11, 0, 0, 0);
         due("2 around 1 by kind 11", t.state(12, 0, 5, 0), 6);
         due("3 around 2", t.state(12, 0, 6, 0), FULL);
+    }
+
+    private static void greatestNestingIsCarriedOut() {
+        for (int a : new int[] {0, 1, 15}) {
+            for (int b : new int[] {0, 1, 15}) {
+                for (int inner = 11; inner <= 12; inner++) {
+                    int[] within = inner == 12 ? times(b, 15) : b != 0 ? times(1, 15) : times(1, 14);
+                    dueNested(a, b, inner, 12, 5, 0, times(a * within.length, within.length == 0 ? 0 : within[0]));
+                    dueNested(a, b, inner, 11, 5, 4, a != 0 ? within : times(1, 13));
+                    dueNested(a, b, inner, 11, 4, 5, a != 0 ? times(1, 13) : within);
+                }
+            }
+        }
+    }
+
+    private static int[] times(int n, int number) {
+        int[] numbers = new int[n];
+        for (int k = 0; k < n; k++) {
+            numbers[k] = number;
+        }
+        return numbers;
+    }
+
+    /** Inmost the last element, 15, is fetched and printed, or else 14; statement 4 prints 13. */
+    private static void dueNested(int a, int b, int inner, int outer, int y, int z, int[] want) {
+        TapeCompiler t = fresh();
+        int[] variables = {a, b, 15, 0, 14, 13};
+        t.setElement(15, 15);
+        t.state(7, 3, 2, 0);
+        t.state(9, 3, 0, 0);
+        t.state(9, 4, 0, 0);
+        t.state(10, 0, 1, 0);
+        t.state(9, 5, 0, 0);
+        t.state(inner, 1, 3, 2);
+        t.state(outer, 0, y, z);
+        String what = "kind " + inner + " for " + b + " in kind " + outer + " for " + a;
+        for (int time = 1; time <= 2; time++) {
+            for (int v = 0; v < 6; v++) {
+                t.setVariable(v, variables[v]);
+            }
+            due(what, t.run(6), want.length);
+            for (int k = 0; k < 40 && k < want.length; k++) {
+                due(what + ", output(" + k + ")", t.output(k), want[k]);
+            }
+            for (int i = 0; i < 16; i++) {
+                due(what + ", element(" + i + ")", t.element(i), i == 15 ? 15 : 0);
+            }
+        }
     }
 
     private static void nestingOfKind10() {
