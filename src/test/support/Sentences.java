@@ -46,7 +46,7 @@ abstract class Sentences {
         return t;
     }
 
-    /** An object whose variables and elements all hold something else than 0, and different things. */
+    /** No two variables hold the same, nor do two elements, so that a change in a wrong place shows. */
     static TapeCompiler filled() {
         TapeCompiler t = fresh();
         for (int v = 0; v < 6; v++) {
