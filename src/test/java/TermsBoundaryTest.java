@@ -49,6 +49,7 @@ public final class TermsBoundaryTest extends Sentences {
         holds("Terms: the NESTING is at most 2 (kind 11)", TermsBoundaryTest::nestingOfKind11);
         holds("Terms: the NESTING is at most 2 (kind 12)", TermsBoundaryTest::nestingOfKind12);
         holds("Terms: the NESTING is at most 2 (carried out)", TermsBoundaryTest::greatestNestingIsCarriedOut);
+        holds("Terms: the NESTING is at most 2 (each kind inmost)", TermsBoundaryTest::eachKindInmost);
         holds("Terms: the NESTING, that for kind 10", TermsBoundaryTest::nestingOfKind10);
         holds("Terms: the NESTING, 0 for others", TermsBoundaryTest::nestingOfOthers);
     }
@@ -555,6 +556,48 @@ public final class TermsBoundaryTest extends Sentences {
                 due(what + ", element(" + i + ")", t.element(i), i == 15 ? 15 : 0);
             }
         }
+    }
+
+    /** A kind that got in the way of the turns or of the choices around it would print too much or too little. */
+    private static void eachKindInmost() {
+        for (int kind = 0; kind < 14; kind++) {
+            if (kind < 10 || kind > 12) {
+                for (int n : new int[] {0, 1, 15}) {
+                    for (int inner = 11; inner <= 12; inner++) {
+                        dueInmost(kind, n, inner, 11);
+                        dueInmost(kind, n, inner, 12);
+                    }
+                }
+            }
+        }
+    }
+
+    /** Statement 2 is the kind in question and prints 7; where a choice goes the other way, statement 1 prints 7. */
+    private static void dueInmost(int kind, int n, int inner, int outer) {
+        int inmost = kind == 9 ? 2 : 1;
+        int then = inner == 12 ? n * inmost : n != 0 ? inmost : 1;
+        int otherwise = inner == 12 ? n * inmost : n == 0 ? inmost : 1;
+        String what = "kind " + kind + " in kind " + inner + " in kind " + outer + " for " + n;
+        TapeCompiler t = inmost(kind, n);
+        t.state(inner, 1, 2, 1);
+        t.state(outer, 0, 3, 1);
+        due(what, t.run(4), outer == 12 ? n * then : n != 0 ? then : 1);
+        TapeCompiler u = inmost(kind, n);
+        u.state(inner, 1, inner == 12 ? 2 : 1, 2);
+        u.state(outer, 0, outer == 12 ? 3 : 1, 3);
+        due(what + ", else", u.run(4), outer == 12 ? n * otherwise : n == 0 ? otherwise : 1);
+    }
+
+    private static TapeCompiler inmost(int kind, int n) {
+        TapeCompiler t = filled();
+        int[] variables = {n, n, 9, 15, 2, 7};
+        for (int v = 0; v < 6; v++) {
+            t.setVariable(v, variables[v]);
+        }
+        t.state(kind, 2, 3, 4);
+        t.state(9, 5, 0, 0);
+        t.state(10, 0, 1, 0);
+        return t;
     }
 
     private static void nestingOfKind10() {
