@@ -267,7 +267,7 @@ public final class TapeCompiler {
         place = 0;
         nest = 0;
         waiting = 0;
-        await(s);
+        writeLater(s);
         for (int turn = 0; turn < TASKS && waiting > 0; turn++) {
             waiting--;
             int task = tasks[waiting];
@@ -282,8 +282,8 @@ public final class TapeCompiler {
                 int turns = turnsCell();
                 put(CLOSE, turns, 0);
             } else if (kinds[task] == BOTH) {
-                await(seconds[task]);
-                await(firsts[task]);
+                writeLater(seconds[task]);
+                writeLater(firsts[task]);
             } else if (kinds[task] == CHOOSE) {
                 writeChoose(firsts[task], seconds[task], thirds[task]);
             } else if (kinds[task] == REPEAT) {
@@ -294,7 +294,7 @@ public final class TapeCompiler {
         }
     }
 
-    private void await(int task) {
+    private void writeLater(int task) {
         if (waiting < TASKS) {
             tasks[waiting] = task;
             waiting++;
@@ -319,10 +319,10 @@ public final class TapeCompiler {
         put(ADD, otherwise, -1);
         clear(chosen);
         nest++;
-        await(END_CHOOSE);
-        await(z);
-        await(OTHERWISE);
-        await(y);
+        writeLater(END_CHOOSE);
+        writeLater(z);
+        writeLater(OTHERWISE);
+        writeLater(y);
     }
 
     private void writeOtherwise() {
@@ -342,8 +342,8 @@ public final class TapeCompiler {
         put(OPEN, turns, 0);
         put(ADD, turns, -1);
         nest++;
-        await(END_REPEAT);
-        await(y);
+        writeLater(END_REPEAT);
+        writeLater(y);
     }
 
     /** Operands are copied before x is touched, because x may be one of them. */
